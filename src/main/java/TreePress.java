@@ -626,13 +626,6 @@ public final class TreePress {
         private int depth;
         private boolean begun;
 
-        Reader() {
-            at = 0;
-            end = 0;
-            depth = 0;
-            begun = false;
-        }
-
         int failureOfHead(Row row) {
             int length = row.length();
             for (int i = 0; i < HEAD_NUMBERS; i++) {

@@ -13,7 +13,8 @@ public final class BuildTest {
         depthLimit();
         nodeLimit();
         propertyLimit();
-        textLimit();
+        textLimitOfProperties();
+        textLimitOfNodes();
         wrongArgumentsComeFirst();
         Check.finish();
     }
@@ -190,7 +191,8 @@ public final class BuildTest {
         Check.same("a node is still taken", 1, x.open());
     }
 
-    private static void textLimit() {
+    /** A tree of one node and 402 properties that has room for 31 bytes. */
+    private static TreePress almostFull() {
         TreePress x = new TreePress();
         Made made = new Made().node("");
         for (int i = 0; i < 400; i++) {
@@ -203,19 +205,39 @@ public final class BuildTest {
         }
         Check.same("12400 and 1984", 400, Check.property(x, "long", value.toString()));
         Check.same("and 1969", 401, Check.property(x, "more", value.substring(15)));
+        return x;
+    }
+
+    private static void textLimitOfProperties() {
+        TreePress x = almostFull();
         Check.type(x, "p" + LONGEST);
-        Check.tooMuch("one byte too many in a property", () -> x.property(1));
+        Check.tooMuch("one byte too many", () -> x.property(1));
         Check.same("the tape stays", 32, Check.tapeLength(x));
         x.end(31);
         Check.same("as many as there may be", 402, x.property(1));
         Check.type(x, "n");
-        Check.tooMuch("one byte too many in a node", () -> x.open());
-        Check.tooMuch("one byte too many in a name", () -> x.property(1));
+        Check.tooMuch("a node more", () -> x.open());
+        Check.tooMuch("a property more", () -> x.property(1));
         Check.same("the tape stays", 1, Check.tapeLength(x));
         Check.same("nodes stay", 1, x.nodes());
         Check.same("properties stay", 403, x.properties());
         x.clear();
         Check.same("behind clear", 1, x.open());
+    }
+
+    private static void textLimitOfNodes() {
+        TreePress x = almostFull();
+        Check.same("a property that leaves 28", 402, Check.property(x, "pqr", ""));
+        Check.type(x, LONGEST.substring(2));
+        Check.tooMuch("one byte too many", () -> x.open());
+        Check.same("the tape stays", 29, Check.tapeLength(x));
+        x.end(28);
+        Check.same("as many as there may be", 1, x.open());
+        Check.type(x, "n");
+        Check.tooMuch("a node more", () -> x.open());
+        Check.tooMuch("a property more", () -> x.property(1));
+        Check.same("nodes stay", 2, x.nodes());
+        Check.same("the place stays", 0, x.close());
     }
 
     private static void wrongArgumentsComeFirst() {

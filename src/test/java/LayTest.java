@@ -6,6 +6,7 @@ public final class LayTest {
         namesButOnce();
         fillingUp();
         laidStaysUntilLaidAgain();
+        laidAfterClearAndRead();
         biggest();
         Check.finish();
     }
@@ -96,6 +97,30 @@ public final class LayTest {
         Check.badIndex("the shorter end", () -> x.laid(72));
         Check.same("a failed read", 3, Check.read(x, new byte[3]));
         Check.same("what was laid stays", 72, x.laid(7));
+    }
+
+    /** Nothing of an earlier tree is left in a later one. */
+    private static void laidAfterClearAndRead() {
+        TreePress x = new TreePress();
+        byte[] due = new Made().node("").property(0, "1").node("n").property(2, "22")
+                .property(0, "").close().close().last().row("q\0pp\0");
+        for (int round = 0; round < 3; round++) {
+            Check.property(x, "before", "other");
+            Check.property(x, "p", "");
+            Check.open(x, "node");
+            x.clear();
+            Check.property(x, "q", "1");
+            Check.open(x, "n");
+            Check.property(x, "pp", "22");
+            Check.property(x, "q", "");
+            Check.same("lay", due.length, x.lay());
+            for (int i = 56; i < due.length; i++) {
+                Check.same("byte " + i, due[i] & 255, x.laid(i));
+            }
+            Check.same("read", TreePress.NONE, Check.read(x, due));
+            Check.same("lay what was read", due.length, x.lay());
+            x.clear();
+        }
     }
 
     /** As many nodes and properties as there may be; looked at here and there, as calls are few. */

@@ -69,6 +69,8 @@ public final class TapeTest {
             Check.same("feed " + i, 20 * i, x.feed(i, i, i, i, i));
         }
         Check.tooMuch("65540 bytes", () -> x.feed(0, 0, 0, 0, 0));
+        x.end(65517);
+        Check.tooMuch("65537 bytes", () -> x.feed(0, 0, 0, 0, 0));
         x.end(65516);
         Check.same("65536 bytes", 65536, x.feed(0, 0, 0, 0, 0));
         Check.tooMuch("65556 bytes", () -> x.feed(0, 0, 0, 0, 0));
