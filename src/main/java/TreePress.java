@@ -132,6 +132,8 @@ public final class TreePress {
         if (failed == NONE) {
             swapTrees();
         }
+        // The document says so of every read(), not only of one that does not fail.
+        tree.makeFirstThePlace();
         return failed;
     }
 
@@ -466,6 +468,10 @@ public final class TreePress {
             return place == 0;
         }
 
+        void makeFirstThePlace() {
+            place = 0;
+        }
+
         int leavePlace() {
             place = parentOf(place);
             return place;
@@ -769,7 +775,7 @@ public final class TreePress {
             return stop < row.length() && row.at(stop) == 0 ? stop - start : 0;
         }
 
-        // The first node is not left, so that it is the place when all is read.
+        // The first node is in no other that could be the place.
         private int leaveNode(Tree tree) {
             depth--;
             if (depth > 0) {

@@ -247,6 +247,7 @@ final class Model {
             readHead();
             readStructure();
         } catch (Failed e) {
+            place = first;
             return e.place;
         }
         first = built;
