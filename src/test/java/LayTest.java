@@ -2,6 +2,10 @@
 public final class LayTest {
     public static void main(String[] args) {
         firstNodeAlone();
+        numbersOfTheHead();
+        partsOfTheStructure();
+        namesInTheOrderInWhichTheyComeFirst();
+        layingChangesNothing();
         aWholeTree();
         namesButOnce();
         fillingUp();
@@ -24,6 +28,84 @@ public final class LayTest {
         Check.badIndex("behind the last", () -> x.laid(72));
         Check.badIndex("the highest", () -> x.laid(Integer.MAX_VALUE));
         Check.badIndex("the lowest", () -> x.laid(Integer.MIN_VALUE));
+    }
+
+    private static int number(TreePress x, int at) {
+        return x.laid(at) << 24 | x.laid(at + 1) << 16 | x.laid(at + 2) << 8 | x.laid(at + 3);
+    }
+
+    /** The structure has 8 + 16 + 12 + 300 + 12 bytes, the names have 9. */
+    private static void numbersOfTheHead() {
+        TreePress x = new TreePress();
+        Check.property(x, "abc", "12");
+        Check.open(x, "longer");
+        Check.property(x, "defg", "v".repeat(287));
+        Check.same("lay", 56 + 348 + 9, x.lay());
+        Check.same("3490578157", (int) 3490578157L, number(x, 0));
+        Check.same("how many bytes in all", 413, number(x, 4));
+        Check.same("56", 56, number(x, 8));
+        Check.same("where its names begin", 56 + 348, number(x, 12));
+        Check.same("40", 40, number(x, 16));
+        Check.same("17", 17, number(x, 20));
+        Check.same("16", 16, number(x, 24));
+        Check.same("0", 0, number(x, 28));
+        Check.same("how many bytes the names have", 9, number(x, 32));
+        Check.same("how many the structure has", 348, number(x, 36));
+        for (int i = 40; i < 56; i++) {
+            Check.same("a byte 0 at " + i, 0, x.laid(i));
+        }
+        Check.same("the structure begins", 1, number(x, 56));
+        Check.same("the structure ends", 9, number(x, 400));
+        Check.same("the names begin", 'a', x.laid(404));
+        Check.same("the names end", 0, x.laid(412));
+    }
+
+    private static void partsOfTheStructure() {
+        TreePress x = new TreePress();
+        Check.property(x, "p", "12345");
+        Check.open(x, "abcd");
+        Check.property(x, "q", "");
+        x.lay();
+        int[] due = {1, 0, 3, 5, 0, 0x31323334, 0x35000000, 1, 0x61626364, 0, 3, 0, 2, 2, 2, 9,
+            0x70007100};
+        for (int i = 0; i < due.length; i++) {
+            Check.same("number " + i + " of the structure", due[i], number(x, 56 + 4 * i));
+        }
+    }
+
+    private static void namesInTheOrderInWhichTheyComeFirst() {
+        TreePress x = new TreePress();
+        String[] names = {"z", "a", "z", "m", "a", "b"};
+        int[] offsets = {0, 2, 0, 4, 2, 6};
+        Check.open(x, "node");
+        for (String name : names) {
+            Check.property(x, name, "");
+        }
+        Check.open(x, "inner");
+        Check.property(x, "m", "");
+        int length = x.lay();
+        for (int i = 0; i < names.length; i++) {
+            Check.same("where " + names[i] + " begins", offsets[i], number(x, 84 + 12 * i));
+        }
+        String due = "z\0a\0m\0b\0";
+        for (int i = 0; i < due.length(); i++) {
+            Check.same("byte " + i + " of the names", due.charAt(i), x.laid(length - 8 + i));
+        }
+        Check.same("how many bytes they have", due.length(), number(x, 32));
+    }
+
+    private static void layingChangesNothing() {
+        TreePress x = new TreePress();
+        Check.property(x, "p", "v");
+        Check.open(x, "a");
+        Check.open(x, "b");
+        Check.type(x, "tape");
+        int length = x.lay();
+        Check.same("laid again", length, x.lay());
+        Check.same("nodes", 3, x.nodes());
+        Check.same("properties", 1, x.properties());
+        Check.same("the tape", 4, Check.tapeLength(x));
+        Check.same("the place", 1, x.close());
     }
 
     private static void aWholeTree() {

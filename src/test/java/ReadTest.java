@@ -24,6 +24,16 @@ public final class ReadTest {
         tooManyBytesOfNames();
         tooManyBytesOfNodeNames();
         treeAndPlaceBehindRead();
+        namesInAnyOrder();
+        namesMoreThanOnce();
+        anythingBetweenNames();
+        nameEndsAmongTheNames();
+        fourAtEachPlace();
+        fourElsewhere();
+        structureCutAnywhere();
+        namesAreNoStructure();
+        behindNine();
+        headBeforeStructure();
         Check.finish();
     }
 
@@ -468,5 +478,180 @@ public final class ReadTest {
         Check.same("one more property of the first node", 1, Check.property(x, "q", "w"));
         Check.same("properties of it", 2, x.node(0, 1));
         Check.same("the one that was read", 'v', x.value(0, 0));
+    }
+
+    /** Reads, and compares with the tree that a row without liberties gives. */
+    private static void readsAs(String what, byte[] due, byte[] row) {
+        TreePress x = new TreePress();
+        Check.same(what, NONE, Check.read(x, row));
+        Check.same(what, due, Check.laid(x));
+    }
+
+    private static void namesInAnyOrder() {
+        byte[] due = new Made().node("").property(0, "1").property(3, "2").property(7, "3")
+                .close().last().row("pp\0qqq\0r\0");
+        int[][] offsets = {{0, 3, 7}, {0, 5, 3}, {4, 0, 7}, {6, 0, 4}, {2, 5, 0}, {6, 2, 0}};
+        String[] names = {"pp\0qqq\0r\0", "pp\0r\0qqq\0", "qqq\0pp\0r\0", "qqq\0r\0pp\0",
+            "r\0pp\0qqq\0", "r\0qqq\0pp\0"};
+        for (int i = 0; i < names.length; i++) {
+            readsAs("order " + i, due, new Made().node("").property(offsets[i][0], "1")
+                    .property(offsets[i][1], "2").property(offsets[i][2], "3").close().last()
+                    .row(names[i]));
+        }
+    }
+
+    private static void namesMoreThanOnce() {
+        byte[] due = new Made().node("").property(0, "1").property(0, "2").property(0, "3")
+                .close().last().row("pp\0");
+        readsAs("once for each property", due, new Made().node("").property(6, "1")
+                .property(0, "2").property(3, "3").close().last().row("pp\0pp\0pp\0"));
+        readsAs("within another", due, new Made().node("").property(1, "1").property(5, "2")
+                .property(1, "3").close().last().row("qpp\0/pp\0"));
+    }
+
+    private static void anythingBetweenNames() {
+        byte[] due = new Made().node("").property(0, "1").property(2, "2").close().last()
+                .row("p\0q\0");
+        String[] others = {"", "\0", "\0\0\0", "/", " ", "\u00ff", "\1", LONGEST + LONGEST,
+            "other\0", "/\0 \u0080"};
+        for (String other : others) {
+            int n = other.length();
+            readsAs("before", due, new Made().node("").property(n + 1, "1").property(n + 3, "2")
+                    .close().last().row(other + "\0p\0q\0"));
+            readsAs("between", due, new Made().node("").property(0, "1").property(n + 3, "2")
+                    .close().last().row("p\0" + other + "\0q\0"));
+            readsAs("behind", due, new Made().node("").property(0, "1").property(2, "2")
+                    .close().last().row("p\0q\0" + other));
+        }
+    }
+
+    private static void nameEndsAmongTheNames() {
+        byte[] row = new Made().node("").property(0, "v").close().last().row("p");
+        fails("a name that the row ends", 72, row);
+        fails("the same, and a byte 0 behind it", NONE, new Made().node("").property(0, "v")
+                .close().last().row("p\0"));
+        fails("a name right behind the names", 72, new Made().node("").property(2, "v").close()
+                .last().row("p\0"));
+        fails("the byte 0 itself", 72, new Made().node("").property(1, "v").close().last()
+                .row("p\0"));
+    }
+
+    /** One 4, or three, before each number 1, 2, 3 and 9. */
+    private static void fourAtEachPlace() {
+        byte[] due = new Made().node("").property(0, "v").property(2, "").node("n")
+                .property(0, "w").node("m").close().close().node("o").close().close().last()
+                .row("p\0q\0");
+        for (int count = 1; count <= 3; count++) {
+            for (int place = 0; place < 12; place++) {
+                readsAs(count + " numbers 4 before part " + place, due,
+                        withFours(place, count).row("p\0q\0"));
+            }
+        }
+        fails("4 behind 9", withFours(12, 0).here(), withFours(12, 1).row("p\0q\0"));
+    }
+
+    private static Made withFours(int place, int count) {
+        Made made = new Made();
+        for (int part = 0; part < 13; part++) {
+            for (int i = 0; part == place && i < count; i++) {
+                made.nothing();
+            }
+            addPart(made, part);
+        }
+        return made;
+    }
+
+    private static void addPart(Made made, int part) {
+        switch (part) {
+            case 0: made.node(""); break;
+            case 1: made.property(0, "v"); break;
+            case 2: made.property(2, ""); break;
+            case 3: made.node("n"); break;
+            case 4: made.property(0, "w"); break;
+            case 5: made.node("m"); break;
+            case 6: case 7: case 9: case 10: made.close(); break;
+            case 8: made.node("o"); break;
+            case 11: made.last(); break;
+            default: break;
+        }
+    }
+
+    private static void fourElsewhere() {
+        fails("4 as the first node's name", 63, new Made().number(1).nothing().number(0).close()
+                .last().row());
+        fails("4 before a node's name", 68, new Made().node("").number(1).nothing().raw("n\0\0\0")
+                .close().close().last().row());
+        fails("4 before a value's length is the length", 72, new Made().node("").number(3)
+                .nothing().number(100).number(0).close().last().row("p\0"));
+        fails("4 behind the length is the name", 72, new Made().node("").number(3).number(0)
+                .nothing().number(0).close().last().row("p\0"));
+    }
+
+    /** Where a structure that is cut fails: at its end, but for a value that would go beyond. */
+    private static void structureCutAnywhere() {
+        String names = "p\0";
+        Made made = new Made().node("").property(0, "12345678").node("abcdef").close().close()
+                .last();
+        byte[] whole = made.row(names);
+        int structure = whole.length - 56 - names.length();
+        for (int length = 0; length < structure; length += 4) {
+            byte[] row = new byte[56 + length + names.length()];
+            System.arraycopy(whole, 0, row, 0, 56 + length);
+            row[56 + length] = 'p';
+            Made.put(row, 4, row.length);
+            Made.put(row, 12, 56 + length);
+            Made.put(row, 32, names.length());
+            Made.put(row, 36, length);
+            boolean inValue = length >= 16 && length < 28;
+            fails("a structure of " + length, inValue ? 68 : 56 + length, row);
+        }
+    }
+
+    /** Where the structure ends too early, it ends, even if the names would go on with it. */
+    private static void namesAreNoStructure() {
+        String last = "\0\0\0\11";
+        String close = "\0\0\0\2" + last;
+        fails("9 among the names", 68, new Made().node("").close().row(last));
+        fails("2 among the names", 64, new Made().node("").row(close));
+        fails("4 among the names", 68, new Made().node("").close().row("\0\0\0\4" + last));
+        fails("1 among the names", 56, new Made().row("\0\0\0\1\0\0\0\0" + close));
+        fails("the first node's name among the names", 60, new Made().number(1)
+                .row("\0\0\0\0" + close));
+        fails("a name's end among the names", 72, new Made().node("").number(1).raw("abcd")
+                .row("\0\0\0\0\0\0\0\2" + close));
+        fails("a property among the names", 64, new Made().node("")
+                .row("\0\0\0\3\0\0\0\0\0\0\0\24" + close + "p\0"));
+        fails("a value's length among the names", 68, new Made().node("").number(3)
+                .row("\0\0\0\0\0\0\0\20" + close + "p\0"));
+        fails("a value among the names", 68, new Made().node("").number(3).number(4).number(12)
+                .row("abcd" + close + "p\0"));
+    }
+
+    private static void behindNine() {
+        int[] more = {0, 1, 2, 3, 4, 9, -1};
+        for (int number : more) {
+            fails(number + " behind 9", 72, new Made().node("").close().last().number(number)
+                    .row("p\0"));
+            fails(number + " twice behind 9", 72, new Made().node("").close().last()
+                    .number(number).number(number).row());
+            fails(number + " behind 9 and 4 before", 76, new Made().node("").close().nothing()
+                    .last().number(number).row());
+        }
+    }
+
+    /** Each number of the head comes before whatever is wrong behind it. */
+    private static void headBeforeStructure() {
+        byte[] row = smallRow();
+        row[56] = 1;
+        fails("the structure", 56, row);
+        row[55] = 1;
+        fails("the last byte 0", 55, row);
+        row[40] = 1;
+        fails("the first byte 0", 40, row);
+        int[] places = {32, 28, 24, 20, 16, 12, 8, 4, 0};
+        for (int place : places) {
+            row[place] ^= 1;
+            fails("number at " + place, place, row);
+        }
     }
 }
