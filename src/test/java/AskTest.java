@@ -9,6 +9,12 @@ public final class AskTest {
         about();
         nodeName();
         nameAndValue();
+        firstNodeIsInNone();
+        nodeWithoutPropertyHasNoFirst();
+        noSuchNode();
+        noSuchProperty();
+        noSuchByte();
+        anotherWhat();
         indexesComeFirst();
         Check.finish();
     }
@@ -132,6 +138,87 @@ public final class AskTest {
             Check.badIndex("name of " + i, () -> x.name(i, 0));
             Check.badIndex("value of " + i, () -> x.value(i, 0));
         }
+    }
+
+    private static void firstNodeIsInNone() {
+        TreePress x = new TreePress();
+        Check.same("of a new object", NONE, x.node(0, 0));
+        Check.same("of a tree", NONE, tree().node(0, 0));
+        Check.open(x, "a");
+        Check.same("a node in it is in 0", 0, x.node(1, 0));
+        x.clear();
+        Check.same("behind clear", NONE, x.node(0, 0));
+        Check.same("read", NONE, Check.read(x, new Made().node("").node("a").close().close()
+                .last().row()));
+        Check.same("behind read", NONE, x.node(0, 0));
+        Check.same("a node in it is in 0", 0, x.node(1, 0));
+    }
+
+    private static void nodeWithoutPropertyHasNoFirst() {
+        TreePress x = new TreePress();
+        Check.same("of a new object", NONE, x.node(0, 2));
+        Check.open(x, "a");
+        Check.property(x, "p", "");
+        Check.open(x, "b");
+        Check.same("before one that has", NONE, x.node(0, 2));
+        Check.same("one that has", 0, x.node(1, 2));
+        Check.same("behind one that has", NONE, x.node(2, 2));
+        Check.same("how many it has", 0, x.node(2, 1));
+        Check.property(x, "p", "");
+        Check.same("one that has now", 1, x.node(2, 2));
+    }
+
+    private static void noSuchNode() {
+        TreePress x = new TreePress();
+        Check.same("node 0 is always there", 0, x.node(0, 1));
+        Check.badIndex("node 1 of a new object", () -> x.node(1, 0));
+        Check.badIndex("its name", () -> x.nodeName(1, 0));
+        Check.open(x, "a");
+        Check.same("node 1", 1, x.node(1, 3));
+        Check.badIndex("node 2", () -> x.node(2, 0));
+        x.clear();
+        Check.badIndex("node 1 behind clear", () -> x.node(1, 0));
+        Check.badIndex("its name behind clear", () -> x.nodeName(1, 0));
+    }
+
+    private static void noSuchProperty() {
+        TreePress x = new TreePress();
+        Check.badIndex("property 0 of a new object", () -> x.about(0, 0));
+        Check.badIndex("its name", () -> x.name(0, 0));
+        Check.badIndex("its value", () -> x.value(0, 0));
+        Check.property(x, "p", "v");
+        Check.same("property 0", 1, x.about(0, 2));
+        Check.badIndex("property 1", () -> x.about(1, 0));
+        x.clear();
+        Check.badIndex("property 0 behind clear", () -> x.about(0, 0));
+        Check.badIndex("its name behind clear", () -> x.name(0, 0));
+        Check.badIndex("its value behind clear", () -> x.value(0, 0));
+    }
+
+    /** The bytes of all names and values may lie side by side: none is to be seen from another. */
+    private static void noSuchByte() {
+        TreePress x = new TreePress();
+        Check.property(x, "ab", "cd");
+        Check.property(x, "ef", "");
+        Check.open(x, "gh");
+        Check.property(x, "ij", "kl");
+        for (int j : new int[] {2, 3, -1}) {
+            Check.badIndex("nodeName, byte " + j, () -> x.nodeName(1, j));
+            Check.badIndex("name, byte " + j, () -> x.name(0, j));
+            Check.badIndex("value, byte " + j, () -> x.value(0, j));
+        }
+        Check.badIndex("a value of no bytes", () -> x.value(1, 0));
+        Check.badIndex("the first node's name", () -> x.nodeName(0, 0));
+    }
+
+    private static void anotherWhat() {
+        TreePress x = tree();
+        for (int what : new int[] {4, 5, -1, -2, Integer.MIN_VALUE, Integer.MAX_VALUE}) {
+            Check.badArgument("node(0, " + what + ")", () -> x.node(0, what));
+            Check.badArgument("about(0, " + what + ")", () -> x.about(0, what));
+        }
+        Check.badArgument("about(0, 3)", () -> x.about(0, 3));
+        Check.same("node(1, 3)", 4, x.node(1, 3));
     }
 
     /** Where both are wrong, the exception that the document names first is thrown. */

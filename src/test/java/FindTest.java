@@ -7,7 +7,12 @@ public final class FindTest {
         firstOfThoseAlike();
         noWayBack();
         deepest();
+        slashAloneOrNothing();
+        noSuchNode();
+        noPath();
         seek();
+        seekTakesTheFirst();
+        seekFindsNone();
         seekOfNoNode();
         Check.finish();
     }
@@ -86,6 +91,67 @@ public final class FindTest {
         finds(x, path + "/", NONE);
         finds(x, path + "/" + name, NONE);
         finds(x, path.substring(0, 32 * 14), 14);
+    }
+
+    private static void slashAloneOrNothing() {
+        TreePress x = new TreePress();
+        for (int i = 0; i < 3; i++) {
+            Check.same("nothing", 0, x.find());
+            finds(x, "/", 0);
+            Check.open(x, "n");
+        }
+        Check.same("the place stays", 2, x.close());
+    }
+
+    private static void noSuchNode() {
+        TreePress x = new TreePress();
+        Check.property(x, "p", "");
+        Check.open(x, "abc");
+        Check.open(x, "de");
+        String[] none = {"/ab", "/abcd", "/b", "/ABC", "/p", "/de", "/abc/abc", "/abc/d",
+            "/abc/de/de", "/de/abc", "/x/de"};
+        for (String path : none) {
+            finds(x, path, NONE);
+        }
+        finds(x, "/abc/de", 2);
+    }
+
+    private static void noPath() {
+        TreePress x = new TreePress();
+        Check.open(x, "abc");
+        Check.open(x, "de");
+        String[] none = {"abc", "abc/de", "//", "/abc/", "/abc//de", "//abc", "/abc/de/", " /abc",
+            "/abc ", "/abc\0", "\0/abc", "/abc\0/de", "/abc/\0", "\0", "/\0", "0"};
+        for (String path : none) {
+            finds(x, path, NONE);
+        }
+    }
+
+    private static void seekTakesTheFirst() {
+        TreePress x = new TreePress();
+        Check.property(x, "q", "0");
+        Check.property(x, "p", "1");
+        Check.property(x, "p", "2");
+        Check.open(x, "n");
+        Check.property(x, "r", "3");
+        Check.property(x, "p", "4");
+        Check.property(x, "p", "5");
+        Check.same("of the first node", 1, Check.seek(x, 0, "p"));
+        Check.same("of another node", 4, Check.seek(x, 1, "p"));
+    }
+
+    private static void seekFindsNone() {
+        TreePress x = new TreePress();
+        Check.same("of no properties", NONE, Check.seek(x, 0, "p"));
+        Check.property(x, "abc", "d");
+        Check.open(x, "n");
+        Check.same("of another node", NONE, Check.seek(x, 1, "abc"));
+        Check.same("a node's name", NONE, Check.seek(x, 0, "n"));
+        String[] none = {"", "ab", "abcd", "bc", "ABC", "abc\0", "/abc"};
+        for (String name : none) {
+            Check.same("seek '" + name + "'", NONE, Check.seek(x, 0, name));
+        }
+        Check.same("it is there", 0, Check.seek(x, 0, "abc"));
     }
 
     private static void seek() {
